@@ -67,6 +67,12 @@ public final class CarrierTest {
         c.unchanged("the same one, who is out", x -> outWith(x, 3), x -> x.assign(0, 2), -2);
         c.unchanged("none for one who is out", x -> outWith(x, 3), x -> x.assign(0, -1), -2);
         c.unchanged("one who is out for another walk", x -> outWith(x, 3), x -> x.assign(1, 2), -2);
+        c.unchanged("carrier 0 with another walk", x -> x.assign(7, 0), x -> x.assign(6, 0), -2);
+        c.unchanged("carrier 0, who is out", x -> {
+            frameOf(x, 3);
+            x.assign(0, 0);
+            x.goOut(0);
+        }, x -> x.assign(0, 1), -2);
         WalkFrames x = new WalkFrames();
         outWith(x, 3);
         c.due("another walk is free to have one", x.assign(1, 3), -9);
@@ -98,6 +104,7 @@ public final class CarrierTest {
         c.due("undo", x.undo(), 4);
         c.due("in", x.carrier(2, 1), 0);
         c.due("in the frame", x.frame(0, 1), 6);
+        c.due("what was set ahead of it stays", x.count(15), 4);
         WalkFrames y = new WalkFrames();
         frameOf(y, 9);
         c.due("a load of 8", y.goOut(2), 8);

@@ -95,6 +95,16 @@ public final class LookingTest {
         c.due("no hole free", x.frame(1, 2), 0);
         c.due("more letters than holes", x.frame(1, 1), 2);
         c.due("walk 7", x.frame(7, 0), 6);
+        WalkFrames first = new WalkFrames();
+        first.post(99, 1, 2);
+        first.post(99, 0, 1);
+        first.hour();
+        c.due("first class", first.frame(7, 3), 2);
+        first.assign(7, 0);
+        first.goOut(0);
+        c.due("first class gone", first.frame(7, 3), 0);
+        c.due("carrier 0 is out", first.count(9), 1);
+        c.due("carrier 0 of the walk", first.frame(7, 4), 0);
         int[][] wrong = {{-1, 0}, {8, 0}, {0, -1}, {0, 5}, {LEAST, 0}, {GREATEST, 0}, {0, LEAST}, {0, GREATEST}};
         for (int[] a : wrong) {
             c.unchanged("wrong frame", y -> y.post(3, 0, 2), y -> y.frame(a[0], a[1]), -1);

@@ -141,6 +141,25 @@ public final class MailTest {
         c.due("of the first class", y.frame(0, 3), 1);
         c.due("free", y.frame(0, 2), 0);
         c.due("other frames are not asked", y.frame(1, 1), 0);
+        displacesTheLastLetter(c);
+    }
+
+    /** Letter 0 comes back from another frame, and displaces letter 1, behind which no letter has come. */
+    private static void displacesTheLastLetter(Check c) {
+        WalkFrames x = new WalkFrames();
+        x.set(0, 1);
+        x.post(99, 1, 1);
+        x.post(0, 0, 1);
+        x.hour();
+        x.setRange(99, 99, 0);
+        x.assign(7, 3);
+        x.goOut(3);
+        x.comeBack(3);
+        c.due("overflow by the rule 1", x.wouldOverflow(1), 1);
+        x.set(8, 1);
+        c.due("hour", x.hour(), 1);
+        c.due("the first class is in", x.letter(0, 3), 0);
+        c.due("the last letter is displaced", x.letter(1, 2), 2);
     }
 
     private static void hourRuleMostFree(Check c) {
@@ -162,6 +181,12 @@ public final class MailTest {
         c.due("it is the last", x.letter(10, 2), 2);
         c.due("the one before is in", x.letter(9, 3), 7);
         c.due("not where they belong", x.count(10), 9);
+        WalkFrames y = new WalkFrames();
+        y.set(8, 2);
+        y.set(7, 1);
+        y.post(99, 0, 2);
+        y.hour();
+        c.due("all others have six free, 0 is the smallest", y.letter(1, 3), 0);
     }
 
     /** Letter 2 was misrouted, letter 0 comes back to the bag beside it. */

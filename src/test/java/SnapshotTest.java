@@ -9,6 +9,7 @@ public final class SnapshotTest {
         Check c = new Check("SnapshotTest");
         take(c);
         restore(c);
+        restoreOfOtherLetters(c);
         restoreKeepsTextSlotsAndHistory(c);
         wrong(c);
         undo(c);
@@ -88,6 +89,35 @@ public final class SnapshotTest {
         same.restore(1);
         c.same("restored with a carrier out", Look.all(z).replaceAll(" u.*", ""),
                 Look.all(same).replaceAll(" u.*", ""));
+    }
+
+    /** The letter 0 of the present and the letter 0 of the snapshot have nothing in common. */
+    private static void restoreOfOtherLetters(Check c) {
+        WalkFrames x = new WalkFrames();
+        x.take(1);
+        x.post(5, 0, 1);
+        x.hour();
+        x.assign(0, 0);
+        x.goOut(0);
+        x.comeBack(0);
+        x.take(0);
+        x.restore(1);
+        x.hour();
+        x.hour();
+        x.post(90, 1, 1);
+        int[] present = {90, 1, 0, -9, -9, 0, 2, -9, 7};
+        for (int what = 0; what <= 8; what++) {
+            c.due("letter(0, " + what + ")", x.letter(0, what), present[what]);
+        }
+        c.due("restore", x.restore(0), 1);
+        int[] kept = {5, 0, 4, -9, -9, 0, 0, 1, 0};
+        for (int what = 0; what <= 8; what++) {
+            c.due("letter(0, " + what + ") restored", x.letter(0, what), kept[what]);
+        }
+        c.due("undo", x.undo(), 4);
+        for (int what = 0; what <= 8; what++) {
+            c.due("letter(0, " + what + ") undone", x.letter(0, what), present[what]);
+        }
     }
 
     private static void restoreKeepsTextSlotsAndHistory(Check c) {

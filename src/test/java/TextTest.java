@@ -129,7 +129,7 @@ public final class TextTest {
     }
 
     private static void reversed(Check c) {
-        for (String text : new String[] {"9-2=3", "1-2=3;5-4=0", "10-9=0", "99-0=7;1-2=3"}) {
+        for (String text : new String[] {"9-2=3", "1-2=3;5-4=0", "10-9=0", "99-0=7;1-2=3", "1-1=1;2-2=2;3-2=1"}) {
             c.unchanged("setRanges of " + text, x -> {
                 x.hour();
                 Check.append(x, text);
@@ -139,6 +139,9 @@ public final class TextTest {
             c.due("reversed", x.setRanges(), -1);
             c.due("text stays", x.count(18), text.length());
             c.due("stretches stay", x.count(8), 8);
+            x.clearText();
+            Check.append(x, "2-9=0");
+            c.due("a right one behind it", x.setRanges(), 1);
         }
     }
 
