@@ -1,4 +1,3 @@
-import java.io.IOException;
 import java.lang.reflect.Method;
 import java.util.Arrays;
 import java.util.Comparator;
@@ -58,7 +57,7 @@ public final class BoundaryTest {
         wrong += c.wrong();
     }
 
-    private void lookForGaps(Set<String> sentences) throws IOException {
+    private void lookForGaps(Set<String> sentences) {
         for (String sentence : sentences) {
             boolean plain = Arrays.stream(WITHOUT_BOUNDARY).anyMatch(sentence::startsWith);
             if (quoted.contains(sentence) == plain) {

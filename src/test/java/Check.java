@@ -59,11 +59,17 @@ final class Check {
     }
 
     /** Behind the script the call answers as is wanted, and nothing that can be seen is another than before. */
-    void refused(String before, String call, int want) {
+    void changesNothing(String before, String call, int want) {
         Script script = new Script(before);
-        Script refused = script.then(call);
-        due(call + " behind " + before, refused.run(new WalkFrames()), want);
-        same("what can be seen behind " + call + " behind " + before, Sight.whole(refused), whole(script));
+        Script longer = script.then(call);
+        due(call + " behind " + before, longer.run(new WalkFrames()), want);
+        same("what can be seen behind " + call + " behind " + before, Sight.whole(longer), whole(script));
+    }
+
+    /** Behind the script the call answers the error, and changes nothing. */
+    void refused(String before, String call, int error) {
+        due("an error is " + error, error < 0 && error != WalkFrames.NONE ? 1 : 0, 1);
+        changesNothing(before, call, error);
     }
 
     /** Each of the calls is refused, by a new object and by a busy one, as an argument is out of range. */

@@ -22,7 +22,7 @@ final class ForecastBounds {
         c.answers("set(0,1) post(5,0,1) hour() assign(0,0) goOut(0) post(5,0,1) clearIn()=1 post(5,0,1) clearIn()=-9");
         c.answers("499*hour() set(9,1) post(0,0,3) clearIn()=3 hour() clearIn()=2 hour()=-3 clearIn()=2 count(7)=500");
         c.answers("500*hour() " + SIXTY + "clearIn()=60 post(99,0,1) clearIn()=-9");
-        c.refused(BUSY, "clearIn()", 1);
+        c.changesNothing(BUSY, "clearIn()", 1);
     }
 
     @Says(under = "Promise 23: clearIn", sentence = "Returns the number of hours, 0 if they are now; NONE if they would not be within"
@@ -37,8 +37,8 @@ final class ForecastBounds {
         c.answers("set(0,1) set(8,1) post(0,0,1) hour() post(0,1,1) clearIn()=-9");
         c.answers("set(0,1) set(1,1) set(2,1) set(3,1) set(4,1) set(5,1) set(6,1) set(7,1) set(8,2) post(0,0,8) clearIn()=1"
                 + " post(0,0,1) clearIn()=-9");
-        c.refused(SIXTY + "post(99,0,1)", "clearIn()", -9);
-        c.refused("", "clearIn()", 0);
+        c.changesNothing(SIXTY + "post(99,0,1)", "clearIn()", -9);
+        c.changesNothing("", "clearIn()", 0);
     }
 
     @Says(under = "Promise 24: wouldOverflow", sentence = "Tells how many letters would be in the overflow behind an hour, by a rule"
@@ -50,7 +50,7 @@ final class ForecastBounds {
                 + " wouldOverflow(2)=0 hour()=1 wouldOverflow(1)=0 wouldOverflow(0)=0");
         c.answers("set(0,1) post(0,0,5) hour()=4 wouldOverflow(0)=4 set(9,3) wouldOverflow(0)=3 set(9,1) wouldOverflow(0)=1");
         c.answers("499*hour() post(0,0,7) wouldOverflow(0)=1 hour()=1 wouldOverflow(0)=1 wouldOverflow(2)=0 hour()=-3 count(7)=500");
-        c.refused("500*hour() post(0,0,7)", "wouldOverflow(0)", 1);
+        c.changesNothing("500*hour() post(0,0,7)", "wouldOverflow(0)", 1);
     }
 
     @Says(under = "Promise 24: wouldOverflow", sentence = "- `rule`: 0 to 2")
@@ -61,11 +61,11 @@ final class ForecastBounds {
 
     @Says(under = "Promise 24: wouldOverflow", sentence = "Returns the number; INVALID_ARGUMENT if rule is out of range.")
     static void wouldOverflowReturns(Check c) {
-        c.refused(BUSY, "wouldOverflow(0)", 0);
-        c.refused(BUSY + "set(0,1)", "wouldOverflow(0)", 2);
-        c.refused(BUSY + "set(0,1)", "wouldOverflow(2)", 0);
+        c.changesNothing(BUSY, "wouldOverflow(0)", 0);
+        c.changesNothing(BUSY + "set(0,1)", "wouldOverflow(0)", 2);
+        c.changesNothing(BUSY + "set(0,1)", "wouldOverflow(2)", 0);
         c.refused("500*hour()", "wouldOverflow(3)", -1);
-        c.refused("", "wouldOverflow(0)", 0);
+        c.changesNothing("", "wouldOverflow(0)", 0);
     }
 
     @Says(under = "Promise 25: bestCarrier", sentence = "Finds the carrier without a walk that has made the most rounds on a walk, of"
@@ -80,7 +80,7 @@ final class ForecastBounds {
         c.answers(two + "bestCarrier(0)=4 bestCarrier(1)=3 bestCarrier(2)=0 assign(7,4) bestCarrier(0)=5 assign(0,5)"
                 + " bestCarrier(0)=1 assign(6,1) bestCarrier(0)=0 assign(5,0) bestCarrier(0)=2 bestCarrier(1)=3 assign(4,2)"
                 + " bestCarrier(0)=3 assign(3,3) bestCarrier(0)=-9 bestCarrier(1)=-9");
-        c.refused(two, "bestCarrier(0)", 4);
+        c.changesNothing(two, "bestCarrier(0)", 4);
     }
 
     @Says(under = "Promise 25: bestCarrier", sentence = "- `walk`: 0 to 7")
@@ -94,12 +94,12 @@ final class ForecastBounds {
             + " carrier has a walk.")
     static void bestCarrierReturns(Check c) {
         String five = "assign(0,0) assign(1,1) assign(2,2) assign(3,3) assign(4,4) ";
-        c.refused(five, "bestCarrier(0)", 5);
-        c.refused(five + "assign(7,5)", "bestCarrier(0)", -9);
-        c.refused(five + "assign(7,5)", "bestCarrier(6)", -9);
+        c.changesNothing(five, "bestCarrier(0)", 5);
+        c.changesNothing(five + "assign(7,5)", "bestCarrier(0)", -9);
+        c.changesNothing(five + "assign(7,5)", "bestCarrier(6)", -9);
         c.refused(five + "assign(7,5)", "bestCarrier(8)", -1);
         c.refused(five + "assign(7,5)", "bestCarrier(-1)", -1);
-        c.refused(five + "assign(7,5) assign(0,-1)", "bestCarrier(6)", 0);
+        c.changesNothing(five + "assign(7,5) assign(0,-1)", "bestCarrier(6)", 0);
     }
 
     @Says(under = "Promise 26: wouldDeliver", sentence = "Tells how many letters a carrier would deliver, if it went out now (if it is"
@@ -114,8 +114,8 @@ final class ForecastBounds {
         c.answers("set(0,20) set(9,40) set(10,4) post(5,0,16) hour() assign(0,0) wouldDeliver(0)=2 goOut(0) comeBack(0)"
                 + " wouldDeliver(0)=2 goOut(0) comeBack(0) wouldDeliver(0)=4 setRange(5,5,1) wouldDeliver(0)=0 goOut(0)"
                 + " wouldDeliver(0)=0 setRange(5,5,0) wouldDeliver(0)=4");
-        c.refused(BUSY, "wouldDeliver(0)", 3);
-        c.refused(FRAMED, "wouldDeliver(2)", 2);
+        c.changesNothing(BUSY, "wouldDeliver(0)", 3);
+        c.changesNothing(FRAMED, "wouldDeliver(2)", 2);
     }
 
     @Says(under = "Promise 26: wouldDeliver", sentence = "- `carrier`: 0 to 5")
@@ -131,8 +131,8 @@ final class ForecastBounds {
         c.refused("post(5,0,3) hour()", "wouldDeliver(2)", -2);
         c.refused("assign(0,2)", "wouldDeliver(2)", -2);
         c.refused("post(5,0,3) assign(0,2)", "wouldDeliver(2)", -2);
-        c.refused(FRAMED + "goOut(2) setRange(5,5,1)", "wouldDeliver(2)", 0);
-        c.refused(FRAMED + "goOut(2)", "wouldDeliver(2)", 2);
+        c.changesNothing(FRAMED + "goOut(2) setRange(5,5,1)", "wouldDeliver(2)", 0);
+        c.changesNothing(FRAMED + "goOut(2)", "wouldDeliver(2)", 2);
         c.refused("", "wouldDeliver(6)", -1);
         c.refused("", "wouldDeliver(-1)", -1);
         c.refused("", "wouldDeliver(0)", -2);

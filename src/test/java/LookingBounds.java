@@ -28,8 +28,8 @@ final class LookingBounds {
 
     @Says(under = "Promise 15: count", sentence = "Returns the number; INVALID_ARGUMENT if what is out of range.")
     static void countReturns(Check c) {
-        c.refused(BUSY, "count(0)", 2);
-        c.refused(BUSY, "count(18)", 4);
+        c.changesNothing(BUSY, "count(0)", 2);
+        c.changesNothing(BUSY, "count(18)", 4);
         c.refused(BUSY, "count(-1)", -1);
         c.refused(BUSY, "count(19)", -1);
     }
@@ -63,8 +63,8 @@ final class LookingBounds {
     @Says(under = "Promise 16: letter", sentence = "Returns the value; INVALID_ARGUMENT if there is no such letter or what is out of"
             + " range.")
     static void letterReturns(Check c) {
-        c.refused(BUSY, "letter(11,8)", 4);
-        c.refused(BUSY, "letter(0,0)", 5);
+        c.changesNothing(BUSY, "letter(11,8)", 4);
+        c.changesNothing(BUSY, "letter(0,0)", 5);
         c.refused(BUSY, "letter(12,8)", -1);
         c.refused(BUSY, "letter(11,9)", -1);
         c.refused(BUSY, "letter(12,9)", -1);
@@ -91,8 +91,8 @@ final class LookingBounds {
 
     @Says(under = "Promise 17: frame", sentence = "Returns the value; INVALID_ARGUMENT if an argument is out of range.")
     static void frameReturns(Check c) {
-        c.refused(BUSY, "frame(0,0)", 5);
-        c.refused(BUSY, "frame(7,4)", 1);
+        c.changesNothing(BUSY, "frame(0,0)", 5);
+        c.changesNothing(BUSY, "frame(7,4)", 1);
         c.invalid("frame(-1,-1)", "frame(8,5)", "frame(7,5)", "frame(8,4)");
     }
 
@@ -113,8 +113,8 @@ final class LookingBounds {
 
     @Says(under = "Promise 18: carrier", sentence = "Returns the value; INVALID_ARGUMENT if an argument is out of range.")
     static void carrierReturns(Check c) {
-        c.refused(BUSY, "carrier(0,3)", 2);
-        c.refused(BUSY, "carrier(5,0)", -9);
+        c.changesNothing(BUSY, "carrier(0,3)", 2);
+        c.changesNothing(BUSY, "carrier(5,0)", -9);
         c.invalid("carrier(-1,-1)", "carrier(6,4)", "carrier(5,4)", "carrier(6,3)");
     }
 
@@ -138,8 +138,8 @@ final class LookingBounds {
 
     @Says(under = "Promise 19: rounds", sentence = "Returns the number; INVALID_ARGUMENT if an argument is out of range.")
     static void roundsReturns(Check c) {
-        c.refused(BUSY, "rounds(0,0)", 2);
-        c.refused(BUSY, "rounds(5,7)", 0);
+        c.changesNothing(BUSY, "rounds(0,0)", 2);
+        c.changesNothing(BUSY, "rounds(5,7)", 0);
         c.invalid("rounds(-1,-1)", "rounds(6,8)");
     }
 
@@ -164,8 +164,8 @@ final class LookingBounds {
 
     @Says(under = "Promise 20: stretch", sentence = "Returns the value; INVALID_ARGUMENT if an argument is out of range.")
     static void stretchReturns(Check c) {
-        c.refused(BUSY, "stretch(5,0)", 5);
-        c.refused(BUSY, "stretch(5,2)", 5);
+        c.changesNothing(BUSY, "stretch(5,0)", 5);
+        c.changesNothing(BUSY, "stretch(5,2)", 5);
         c.invalid("stretch(-1,-1)", "stretch(100,3)");
     }
 
@@ -186,10 +186,10 @@ final class LookingBounds {
             + " letters are in the bag.")
     static void inBagReturns(Check c) {
         c.answers("6*post(0,0,20) inBag(0)=0 inBag(119)=119 inBag(120)=-9");
-        c.refused(BUSY, "inBag(0)", 10);
-        c.refused(BUSY, "inBag(1)", 11);
-        c.refused(BUSY, "inBag(2)", -9);
-        c.refused("", "inBag(0)", -9);
+        c.changesNothing(BUSY, "inBag(0)", 10);
+        c.changesNothing(BUSY, "inBag(1)", 11);
+        c.changesNothing(BUSY, "inBag(2)", -9);
+        c.changesNothing("", "inBag(0)", -9);
         c.refused("", "inBag(-1)", -1);
         // Letters that are elsewhere are not in the bag.
         c.answers("set(0,1) post(0,0,2) hour()=1 inBag(0)=-9");
@@ -221,9 +221,9 @@ final class LookingBounds {
     static void inFrameReturns(Check c) {
         c.answers("set(0,20) set(9,40) post(0,0,20) hour() inFrame(0,0)=0 inFrame(0,19)=19 inFrame(0,20)=-9 set(0,1)"
                 + " inFrame(0,19)=19 inFrame(0,20)=-9");
-        c.refused(BUSY, "inFrame(2,0)", 9);
-        c.refused(BUSY, "inFrame(2,1)", -9);
-        c.refused(BUSY, "inFrame(0,0)", -9);
+        c.changesNothing(BUSY, "inFrame(2,0)", 9);
+        c.changesNothing(BUSY, "inFrame(2,1)", -9);
+        c.changesNothing(BUSY, "inFrame(0,0)", -9);
         c.invalid("inFrame(8,-1)", "inFrame(-1,-1)", "inFrame(8,max)");
     }
 }

@@ -79,6 +79,9 @@ final class OfficeTerms {
                 + " count(4)=2 count(5)=1 count(6)=12 letter(10,0)=60 letter(10,1)=1 letter(1,1)=0 letter(10,5)=0"
                 + " letter(0,5)=3");
         c.invalid("post(0,-1,1)", "post(0,2,1)");
+        // A number that is used again, behind a restore, tells nothing of the letter that had it.
+        c.answers("take(1) " + Check.BUSY + " restore(1)=0 post(9,1,12)=0 letter(0,5)=0 letter(0,2)=0 letter(0,1)=1"
+                + " letter(0,6)=0 letter(0,7)=-9 letter(6,4)=-9 letter(9,2)=0 letter(9,3)=-9 count(11)=0 count(0)=12");
     }
 
     @Says(under = "Letters", promises = {2, 21}, sentence = "When it comes it is in the bag.")
@@ -180,6 +183,9 @@ final class OfficeTerms {
         // Each of two displaces one; a third finds none.
         c.answers("set(8,1) set(0,2) post(0,0,2) hour() post(0,1,3) hour()=3 letter(0,2)=2 letter(1,2)=2 letter(2,3)=0"
                 + " letter(3,3)=0 letter(4,2)=2");
+        // The letter of the second class is the latest that came at all: letter 0 came back as a misroute.
+        c.answers("set(8,1) set(0,1) post(99,1,1) post(0,0,1) hour() setRange(99,99,0) assign(7,3) goOut(3) comeBack(3)=0"
+                + " wouldOverflow(1)=1 hour()=1 letter(0,3)=0 letter(1,2)=2");
     }
 
     @Says(under = "Frames and overflow", promises = {3, 24},

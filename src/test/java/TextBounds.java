@@ -39,7 +39,7 @@ final class TextBounds {
     static void clearTextReturns(Check c) {
         c.answers("clearText()=0 append(48) clearText()=1 clearText()=0 79*append(48) clearText()=79 80*append(48)"
                 + " clearText()=80 clearText()=0");
-        c.refused("", "clearText()", 0);
+        c.changesNothing("", "clearText()", 0);
     }
 
     @Says(under = "Promise 14: setRanges", sentence = "Makes the ranges of the text belong to their walks, one behind another, and"

@@ -93,6 +93,12 @@ final class TextTerms {
         c.answers("text(" + ten + ")=79 setRanges()=10");
         c.refused("text(" + ten + ";)", "setRanges()", -1080);
         c.refused("text(" + ten + "1)", "setRanges()", -1079);
+        // Behind as many ranges as a text can hold, one more begins.
+        String thirteen = "0-0=0;1-1=1;2-2=2;3-3=3;4-4=4;5-5=5;6-6=6;7-7=7;8-8=0;9-9=1;0-0=2;1-1=3;2-2=4";
+        c.refused("text(" + thirteen + ";)", "setRanges()", -1078);
+        c.refused("text(" + thirteen + ";5)", "setRanges()", -1079);
+        c.refused("text(" + thirteen + ";5-)", "setRanges()", -1080);
+        c.refused("text(" + thirteen + ";-5)", "setRanges()", -1078);
     }
 
     @Says(under = "Snapshots", promises = {1, 9, 10, 15}, sentence = "There are two slots for snapshots, empty at first.")
@@ -121,6 +127,9 @@ final class TextTerms {
         c.sameOffice(Check.BUSY + " take(1)" + CHANGES + " restore(1)" + LATER, Check.BUSY + LATER);
         c.sameOffice(Check.BUSY + " take(1)" + CHANGES + " restore(1) restore(1)" + LATER, Check.BUSY + LATER);
         c.sameOffice("take(1) " + Check.BUSY + CHANGES + " restore(1)", "");
+        // The letter 0 came in the hour 0, and in the hour 2 when the snapshot was not yet restored.
+        c.answers("take(1) post(5,0,1) hour() take(0)=1 restore(1)=0 hour() hour() post(90,1,1)=0 letter(0,6)=2 restore(0)=1"
+                + " letter(0,6)=0 letter(0,0)=5 letter(0,1)=0 letter(0,3)=0 undo()=4 letter(0,6)=2 letter(0,0)=90");
         c.answers("take(0) 6*post(0,0,20)=100 restore(0)=0 count(6)=0 letter(0,0)=-1 post(7,0,1)=0 letter(0,0)=7");
     }
 
