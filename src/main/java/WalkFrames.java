@@ -238,7 +238,7 @@ public final class WalkFrames {
 
     public int letter(int letter, int what) {
         Letters letters = now.office.letters;
-        if (!isIn(letter, 0, letters.count - 1)) {
+        if (!letters.has(letter)) {
             return INVALID_ARGUMENT;
         }
         switch (what) {
@@ -295,7 +295,7 @@ public final class WalkFrames {
             return INVALID_ARGUMENT;
         }
         switch (what) {
-            case 0: return now.office.ranges.walk[code];
+            case 0: return now.office.ranges.walkOf(code);
             case 1: return now.office.ranges.firstCode(code);
             case 2: return now.office.ranges.lastCode(code);
             default: return INVALID_ARGUMENT;
@@ -373,15 +373,15 @@ public final class WalkFrames {
     }
 
     private static boolean isWalk(int walk) {
-        return isIn(walk, 0, WALKS - 1);
+        return walk >= 0 && walk < WALKS;
     }
 
     private static boolean isCarrier(int carrier) {
-        return isIn(carrier, 0, CARRIERS - 1);
+        return carrier >= 0 && carrier < CARRIERS;
     }
 
     private static boolean isSlot(int slot) {
-        return isIn(slot, 0, SLOTS - 1);
+        return slot >= 0 && slot < SLOTS;
     }
 
     private static int leastValue(int what) {
@@ -438,6 +438,10 @@ public final class WalkFrames {
             System.arraycopy(other.walk, 0, walk, 0, CODES);
         }
 
+        int walkOf(int code) {
+            return isIn(code, 0, CODES - 1) ? walk[code] : NONE;
+        }
+
         void give(int from, int to, int newWalk) {
             for (int code = Math.max(from, 0); code <= to && code < CODES; code++) {
                 walk[code] = newWalk;
@@ -456,7 +460,7 @@ public final class WalkFrames {
 
         int firstCode(int code) {
             int first = code;
-            while (first > 0 && walk[first - 1] == walk[code]) {
+            while (first > 0 && first < CODES && walk[first - 1] == walk[first]) {
                 first--;
             }
             return first;
@@ -464,7 +468,7 @@ public final class WalkFrames {
 
         int lastCode(int code) {
             int last = code;
-            while (last < CODES - 1 && walk[last + 1] == walk[code]) {
+            while (last >= 0 && last < CODES - 1 && walk[last + 1] == walk[last]) {
                 last++;
             }
             return last;
@@ -497,6 +501,10 @@ public final class WalkFrames {
             count = other.count;
         }
 
+        boolean has(int letter) {
+            return letter >= 0 && letter < count;
+        }
+
         void add(int newCode, int newCategory, int presentHour) {
             if (count < MOST_LETTERS) {
                 code[count] = newCode;
@@ -511,19 +519,40 @@ public final class WalkFrames {
         }
 
         void moveTo(int letter, int newPlace, int newKeeper) {
-            if (place[letter] == FRAME) {
+            if (!has(letter)) {
+                return;
+            }
+            if (place[letter] == FRAME && isWalk(keeper[letter])) {
                 framed[keeper[letter]]--;
             }
             place[letter] = newPlace;
             keeper[letter] = newKeeper;
-            if (newPlace == FRAME) {
+            if (newPlace == FRAME && isWalk(newKeeper)) {
                 framed[newKeeper]++;
             }
         }
 
         void finish(int letter, int newPlace, int presentHour) {
-            moveTo(letter, newPlace, NONE);
-            ended[letter] = presentHour;
+            if (has(letter)) {
+                moveTo(letter, newPlace, NONE);
+                ended[letter] = presentHour;
+            }
+        }
+
+        void misroute(int letter, int presentHour) {
+            if (!has(letter)) {
+                return;
+            }
+            misroutes[letter]++;
+            if (misroutes[letter] >= MISROUTES_TO_SEND_BACK) {
+                finish(letter, SENT_BACK, presentHour);
+            } else {
+                moveTo(letter, BAG, NONE);
+            }
+        }
+
+        boolean isFirstClass(int letter) {
+            return has(letter) && category[letter] == FIRST_CLASS;
         }
 
         void emptyOverflow() {
@@ -557,7 +586,7 @@ public final class WalkFrames {
         int countFirstClass(int walk) {
             int found = 0;
             for (int letter = 0; letter < count; letter++) {
-                if (isAt(letter, FRAME, walk) && category[letter] == FIRST_CLASS) {
+                if (isAt(letter, FRAME, walk) && isFirstClass(letter)) {
                     found++;
                 }
             }
@@ -572,13 +601,15 @@ public final class WalkFrames {
             return sum;
         }
 
-        int lastOfSecondClass(int walk) {
+        /** Answers whether a letter of the second class was in the frame, and makes room by the last of them. */
+        boolean displaceSecondClass(int walk) {
             for (int letter = count - 1; letter >= 0; letter--) {
-                if (isAt(letter, FRAME, walk) && category[letter] == SECOND_CLASS) {
-                    return letter;
+                if (isAt(letter, FRAME, walk) && !isFirstClass(letter)) {
+                    moveTo(letter, OVERFLOW, NONE);
+                    return true;
                 }
             }
-            return NONE;
+            return false;
         }
 
         void listBag(Line line) {
@@ -612,14 +643,18 @@ public final class WalkFrames {
         private void insertByCode(int letter, Line line) {
             line.addLast(letter);
             int at = line.size - 1;
-            while (at > 0 && code[line.letters[at - 1]] > code[letter]) {
+            while (at > 0 && hasGreaterCode(line.letterAt(at - 1), letter)) {
                 line.swapWithPrevious(at);
                 at--;
             }
         }
 
+        private boolean hasGreaterCode(int letter, int other) {
+            return has(letter) && has(other) && code[letter] > code[other];
+        }
+
         private boolean isAt(int letter, int wantedPlace, int wantedKeeper) {
-            return place[letter] == wantedPlace && keeper[letter] == wantedKeeper;
+            return has(letter) && place[letter] == wantedPlace && keeper[letter] == wantedKeeper;
         }
     }
 
@@ -671,7 +706,7 @@ public final class WalkFrames {
         }
 
         int roundsOn(int carrier, int wantedWalk) {
-            return roundsMade[carrier * WALKS + wantedWalk];
+            return isCarrier(carrier) && isWalk(wantedWalk) ? roundsMade[carrier * WALKS + wantedWalk] : 0;
         }
 
         boolean knows(int carrier, int wantedWalk) {
@@ -679,9 +714,11 @@ public final class WalkFrames {
         }
 
         void endRound(int carrier, int letters) {
-            out[carrier] = false;
-            delivered[carrier] += letters;
-            roundsMade[carrier * WALKS + walk[carrier]]++;
+            if (isCarrier(carrier) && isWalk(walk[carrier])) {
+                out[carrier] = false;
+                delivered[carrier] += letters;
+                roundsMade[carrier * WALKS + walk[carrier]]++;
+            }
         }
 
         int bestWithoutWalk(int wantedWalk) {
@@ -746,11 +783,11 @@ public final class WalkFrames {
         }
 
         int walkOf(int letter) {
-            return ranges.walk[letters.code[letter]];
+            return letters.has(letter) ? ranges.walkOf(letters.code[letter]) : NONE;
         }
 
         int freeHoles(int walk) {
-            return Math.max(holes[walk] - letters.framed[walk], 0);
+            return isWalk(walk) ? Math.max(holes[walk] - letters.framed[walk], 0) : 0;
         }
 
         int countStrayLetters() {
@@ -775,7 +812,7 @@ public final class WalkFrames {
             int many = Math.min(speed, line.size);
             int intoFrames = 0;
             for (int i = 0; i < many; i++) {
-                if (sort(line.letters[i])) {
+                if (sort(line.letterAt(i))) {
                     intoFrames++;
                 }
             }
@@ -798,19 +835,10 @@ public final class WalkFrames {
             if (freeHoles(walk) > 0) {
                 return walk;
             }
-            if (rule == RULE_FIRST_CLASS && letters.category[letter] == FIRST_CLASS) {
-                return displaceSecondClass(walk) ? walk : NONE;
+            if (rule == RULE_FIRST_CLASS && letters.isFirstClass(letter)) {
+                return letters.displaceSecondClass(walk) ? walk : NONE;
             }
             return rule == RULE_MOST_FREE ? walkWithMostFree() : NONE;
-        }
-
-        private boolean displaceSecondClass(int walk) {
-            int displaced = letters.lastOfSecondClass(walk);
-            if (displaced == NONE) {
-                return false;
-            }
-            letters.moveTo(displaced, OVERFLOW, NONE);
-            return true;
         }
 
         private int walkWithMostFree() {
@@ -827,7 +855,7 @@ public final class WalkFrames {
 
         boolean canGoOut(int carrier) {
             int walk = carriers.walk[carrier];
-            return walk != NONE && !carriers.out[carrier] && letters.framed[walk] > 0;
+            return isWalk(walk) && !carriers.out[carrier] && letters.framed[walk] > 0;
         }
 
         /** Only for a carrier that can go out; answers how many letters it takes. */
@@ -835,7 +863,7 @@ public final class WalkFrames {
             letters.listByCode(FRAME, carriers.walk[carrier], line);
             int many = Math.min(load, line.size);
             for (int i = 0; i < many; i++) {
-                letters.moveTo(line.letters[i], HAND, carrier);
+                letters.moveTo(line.letterAt(i), HAND, carrier);
             }
             carriers.out[carrier] = true;
             return many;
@@ -854,9 +882,9 @@ public final class WalkFrames {
             }
             int left = many;
             for (int i = 0; i < line.size; i++) {
-                int letter = line.letters[i];
+                int letter = line.letterAt(i);
                 if (walkOf(letter) != walk) {
-                    misroute(letter);
+                    letters.misroute(letter, hour);
                 } else if (left > 0) {
                     letters.finish(letter, DELIVERED, hour);
                     left--;
@@ -871,20 +899,11 @@ public final class WalkFrames {
         private int countBelonging(Line line, int walk) {
             int found = 0;
             for (int i = 0; i < line.size; i++) {
-                if (walkOf(line.letters[i]) == walk) {
+                if (walkOf(line.letterAt(i)) == walk) {
                     found++;
                 }
             }
             return found;
-        }
-
-        private void misroute(int letter) {
-            letters.misroutes[letter]++;
-            if (letters.misroutes[letter] >= MISROUTES_TO_SEND_BACK) {
-                letters.finish(letter, SENT_BACK, hour);
-            } else {
-                letters.moveTo(letter, BAG, NONE);
-            }
         }
 
         private void putBack(int letter, int walk) {

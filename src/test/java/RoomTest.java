@@ -1,13 +1,23 @@
 import java.lang.management.ManagementFactory;
+import java.lang.reflect.Array;
+import java.lang.reflect.Field;
+import java.lang.reflect.Modifier;
+import java.util.ArrayDeque;
+import java.util.Collections;
+import java.util.Deque;
+import java.util.IdentityHashMap;
+import java.util.Set;
 
-/** All calls of one run share one room, so a call makes no object: only the constructor does. */
+/** All calls of one run share one room, so an object is small, and a call makes none: only the constructor does. */
 public final class RoomTest {
     private static final long NOISE = 20_000;
+    private static final int MOST_OBJECTS = 400;
+    private static final int MOST_PARTS = 25_000;
 
     private RoomTest() {
     }
 
-    public static void main(String[] args) {
+    public static void main(String[] args) throws IllegalAccessException {
         com.sun.management.ThreadMXBean memory =
                 (com.sun.management.ThreadMXBean) ManagementFactory.getThreadMXBean();
         Check c = new Check("RoomTest");
@@ -20,7 +30,49 @@ public final class RoomTest {
         long worked = memory.getThreadAllocatedBytes(id);
         c.due("bytes of a new object below 200,000", made - start < 200_000 ? 0 : made - start, 0);
         c.due("bytes of 500 calls", worked - made < NOISE ? 0 : worked - made, 0);
+        size(c, "a new object", new WalkFrames());
+        size(c, "an object behind 500 calls", x);
         c.end();
+    }
+
+    /** The objects and arrays that an object holds, and their fields and elements. */
+    private static void size(Check c, String what, WalkFrames x) throws IllegalAccessException {
+        Set<Object> found = Collections.newSetFromMap(new IdentityHashMap<>());
+        Deque<Object> open = new ArrayDeque<>();
+        open.add(x);
+        int parts = 0;
+        while (!open.isEmpty()) {
+            Object next = open.remove();
+            if (found.add(next)) {
+                parts += next.getClass().isArray() ? elements(next, open) : fields(next, open);
+            }
+        }
+        c.due(what + " holds objects", found.size() <= MOST_OBJECTS ? 0 : found.size(), 0);
+        c.due(what + " holds fields and elements", parts <= MOST_PARTS ? 0 : parts, 0);
+    }
+
+    private static int elements(Object array, Deque<Object> open) {
+        int length = Array.getLength(array);
+        if (!array.getClass().getComponentType().isPrimitive()) {
+            for (int i = 0; i < length; i++) {
+                open.add(Array.get(array, i));
+            }
+        }
+        return length;
+    }
+
+    private static int fields(Object object, Deque<Object> open) throws IllegalAccessException {
+        int found = 0;
+        for (Field field : object.getClass().getDeclaredFields()) {
+            if (!Modifier.isStatic(field.getModifiers())) {
+                found++;
+                field.setAccessible(true);
+                if (!field.getType().isPrimitive() && field.get(object) != null) {
+                    open.add(field.get(object));
+                }
+            }
+        }
+        return found;
     }
 
     /** Some 500 calls, each method among them. */
